@@ -50,18 +50,24 @@ final class Due {
         return x.text(sort, at);
     }
 
-    /** A new object with one text of each sort that is not null. */
-    static FerryLand with(String land, String day, String... others) {
+    /** A new object with a land, a day if it is not null, and routes. */
+    static FerryLand with(String land, String day, String... routes) {
         FerryLand x = new FerryLand();
         due("land " + land, tell(x, 0, NONE, land), 0);
         if (day != null) {
             due("day " + day, tell(x, 1, NONE, day), 0);
         }
-        for (String other : others) {
-            boolean isRoute = other.contains("leg") || !(other.contains("seen") || other.contains("not"));
-            int sort = isRoute ? 2 : 3;
-            int before = x.count(sort);
-            due("text " + other, tell(x, sort, NONE, other), before);
+        for (int i = 0; i < routes.length; i++) {
+            due("route " + routes[i], tell(x, 2, NONE, routes[i]), i);
+        }
+        return x;
+    }
+
+    /** A new object with a land and sights. */
+    static FerryLand withSights(String land, String... sights) {
+        FerryLand x = with(land, null);
+        for (int i = 0; i < sights.length; i++) {
+            due("sight " + sights[i], tell(x, 3, NONE, sights[i]), i);
         }
         return x;
     }

@@ -221,7 +221,8 @@ public final class TapeTest {
     }
 
     private static void nothingChangesByFault() {
-        FerryLand x = Due.with("size 3 4;row 0 1 2 3;work 1 1 5;man 2 2;level 3;", "wait 0;", "from 1 1;leg 2 3;", "from 1 2;not 1 1 1;");
+        FerryLand x = Due.with("size 3 4;row 0 1 2 3;work 1 1 5;man 2 2;level 3;", "wait 0;", "from 1 1;leg 2 3;");
+        Due.due("sight", Due.tell(x, 3, NONE, "from 1 2;not 1 1 1;"), 0);
         Due.due("bad land", Due.tell(x, 0, 0, "size 2 2;row 0 0 0;man 0 0;man 1 1;level 1;work 0 0 1;hour 99;"), NONE);
         Due.due("wide", x.land(0, 0), 3);
         Due.due("level", x.land(0, 2), 3);
@@ -247,7 +248,8 @@ public final class TapeTest {
     }
 
     private static void images() {
-        FerryLand x = Due.with("size 3 4;row 0 1 2 3;man 2 2;", "wait 0;", "from 1 1;leg 2 3;", "from 1 2;not 1 1 1;");
+        FerryLand x = Due.with("size 3 4;row 0 1 2 3;man 2 2;", "wait 0;", "from 1 1;leg 2 3;");
+        Due.due("sight", Due.tell(x, 3, NONE, "from 1 2;not 1 1 1;"), 0);
         Due.due("a fault", Due.tell(x, 0, NONE, "size 2 9;"), NONE);
         Due.type(x, "level 7;x");
         Due.due("image -1", x.image(-1), false);
