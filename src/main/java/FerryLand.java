@@ -279,7 +279,7 @@ public final class FerryLand {
     public int at(int land, int route, int minute) {
         Land one = told.landOf(land);
         Script script = told.script(ROUTE, route);
-        if (!begins(one, script) || minute < 0 || minute > LAST_MINUTE) {
+        if (one == null || script == null || !one.isStart(script) || minute < 0 || minute > LAST_MINUTE) {
             return NONE;
         }
         return meeting.cellAt(one, script, minute);
@@ -289,7 +289,10 @@ public final class FerryLand {
         Land where = told.landOf(land);
         Script first = told.script(ROUTE, one);
         Script second = told.script(ROUTE, other);
-        if (!begins(where, first) || !begins(where, second) || n < 1 || n > LAST_MINUTE) {
+        if (where == null || first == null || second == null || n < 1 || n > LAST_MINUTE) {
+            return NO_SUCH;
+        }
+        if (!where.isStart(first) || !where.isStart(second)) {
             return NO_SUCH;
         }
         meeting.together(where, first, second, n);
@@ -312,7 +315,7 @@ public final class FerryLand {
     public int soaked(int land, int route, int n, boolean soil) {
         Land one = told.landOf(land);
         Script script = told.script(ROUTE, route);
-        if (!begins(one, script) || n < 1 || n > LAST_MINUTE) {
+        if (one == null || script == null || !one.isStart(script) || n < 1 || n > LAST_MINUTE) {
             return NONE;
         }
         meeting.alone(one, script, n);
@@ -330,7 +333,7 @@ public final class FerryLand {
     public long walks(int land, int sight, int n, int cell) {
         Land one = told.landOf(land);
         Script script = told.script(SIGHT, sight);
-        if (!visible(one, script) || n < 0 || n > LAST_WALK) {
+        if (one == null || script == null || !one.hasAll(script) || n < 0 || n > LAST_WALK) {
             return NONE;
         }
         if (cell != NONE && !one.isCell(cell)) {
@@ -343,7 +346,7 @@ public final class FerryLand {
     public int sure(int land, int sight, int n, int minute) {
         Land one = told.landOf(land);
         Script script = told.script(SIGHT, sight);
-        if (!visible(one, script) || n < 0 || n > LAST_WALK) {
+        if (one == null || script == null || !one.hasAll(script) || n < 0 || n > LAST_WALK) {
             return NONE;
         }
         if (minute != NONE && (minute < 0 || minute > n)) {
@@ -412,23 +415,6 @@ public final class FerryLand {
         return kind >= 0 && kind < KINDS;
     }
 
-    private static boolean begins(Land land, Script script) {
-        return land != null && script != null && land.cellOf(script.column, script.row) != NONE;
-    }
-
-    /** All that a sight tells of is there: the facts of later minutes, too. */
-    private static boolean visible(Land land, Script script) {
-        if (!begins(land, script)) {
-            return false;
-        }
-        for (int k = 0; k < script.lines; k++) {
-            if (land.cellOf(script.value(k, 2), script.value(k, 3)) == NONE) {
-                return false;
-            }
-        }
-        return true;
-    }
-
     private static int get(int[] row, int at) {
         return at >= 0 && at < row.length ? row[at] : 0;
     }
@@ -483,6 +469,7 @@ public final class FerryLand {
         int faultPlace = NONE;
         final int[] counts = new int[SORTS];
         final Land[] lands = new Land[MANY];
+        /** By sort and number; there are none of the sort LAND. */
         final Script[] scripts = new Script[SORTS * MANY];
 
         Told() {
@@ -526,12 +513,14 @@ public final class FerryLand {
         }
 
         void keep(int sort, int number, Reader reader) {
-            if (sort == LAND && number >= 0 && number < lands.length) {
-                lands[number].copyFrom(reader.land);
+            Land land = sort == LAND && number >= 0 && number < lands.length ? lands[number] : null;
+            if (land != null) {
+                land.copyFrom(reader.land);
             }
             int place = sort * MANY + number;
-            if (sort != LAND && place >= 0 && place < scripts.length && scripts[place] != null) {
-                scripts[place].copyFrom(reader.script);
+            Script script = place >= 0 && place < scripts.length ? scripts[place] : null;
+            if (script != null) {
+                script.copyFrom(reader.script);
             }
             put(counts, sort, Math.max(get(counts, sort), number + 1));
         }
@@ -557,7 +546,9 @@ public final class FerryLand {
             setFault(other.fault, other.faultPlace);
             copy(other.counts, counts);
             for (int i = 0; i < lands.length && i < other.lands.length; i++) {
-                lands[i].copyFrom(other.lands[i]);
+                if (lands[i] != null && other.lands[i] != null) {
+                    lands[i].copyFrom(other.lands[i]);
+                }
             }
             for (int i = 0; i < scripts.length && i < other.scripts.length; i++) {
                 if (scripts[i] != null && other.scripts[i] != null) {
@@ -704,6 +695,20 @@ public final class FerryLand {
         int cellOf(int column, int row) {
             boolean there = column >= 0 && column < wide && row >= 0 && row < high;
             return there ? row * wide + column : NONE;
+        }
+
+        boolean isStart(Script script) {
+            return cellOf(script.column, script.row) != NONE;
+        }
+
+        /** All that a sight tells of is there: the facts of later minutes, too. */
+        boolean hasAll(Script sight) {
+            for (int k = 0; k < sight.lines; k++) {
+                if (cellOf(sight.value(k, 2), sight.value(k, 3)) == NONE) {
+                    return false;
+                }
+            }
+            return isStart(sight);
         }
 
         int person(int what) {
@@ -914,8 +919,8 @@ public final class FerryLand {
     /** Reads a text from the tape into a draft, or finds its fault. */
     private static final class Reader {
         /** All words of lines, those of one sort in a row; each ends with a blank. */
-        private static final String WORDS = "size row level hour afloat work man child sleeper "
-            + "go work wait moor level from leg from seen not ";
+        private static final String WORDS =
+            "size row level hour afloat work man child sleeper go work wait moor level from leg from seen not ";
         private static final int ROW = 1;
         private static final int LAND_WORK = 5;
         private static final int FIRST_KIND = 6;
@@ -1727,6 +1732,7 @@ public final class FerryLand {
         private static final int MOORINGS = 14;
         /** A step on soil outweighs all steps of any way. */
         private static final int CARRIED = 1000;
+        private static final int UNREACHED = 1000000;
 
         final int[] posts = new int[MOST_WATCHERS];
         int most = 0;
@@ -1858,7 +1864,7 @@ public final class FerryLand {
         /** The steps on soil, or all steps, of the way that is carried least. */
         int carry(Land land, int from, int to, boolean steps) {
             long water = land.water(land.level);
-            Arrays.fill(costs, Integer.MAX_VALUE);
+            Arrays.fill(costs, UNREACHED);
             put(costs, from, 0);
             boolean better = true;
             for (int round = 0; round < CELLS && better; round++) {
@@ -1874,7 +1880,7 @@ public final class FerryLand {
         private boolean carryFrom(Land land, long water, int cell) {
             int before = get(costs, cell);
             boolean better = false;
-            for (int direction = 0; direction < DIRECTIONS && before != Integer.MAX_VALUE; direction++) {
+            for (int direction = 0; direction < DIRECTIONS && before != UNREACHED; direction++) {
                 int to = land.next(cell, direction);
                 int cost = before + (has(water, to) ? 1 : CARRIED + 1);
                 if (to != NONE && cost < get(costs, to)) {

@@ -33,17 +33,15 @@ public final class WaterTest {
 
     private static void droughts() {
         FerryLand x = Due.with("size 4 3;row 0 0 5 2 9;row 1 5 1 5 0;row 2 3 5 0 6;man 0 0;child 1 0;sleeper 3 2;level 7;", null);
-        // level: soil, pools, largest, isles, shore, stranded, dry, volume
+        // by level: soil, pools, largest, isles, shore, stranded, dry, volume
         int[][] rows = {
-            {9, 3, 1, 1, 10, 6, 2, 0},
-            {8, 4, 1, 1, 14, 6, 2, 3},
-            {7, 5, 1, 2, 16, 6, 2, 7},
+            {9, 3, 1, 2, 8, 6, 4, 0},
+            {8, 4, 1, 3, 12, 6, 4, 3},
+            {7, 5, 1, 5, 15, 6, 4, 7},
         };
         for (int by = 0; by < rows.length; by++) {
             for (int what = 0; what < 8; what++) {
-                if (what != 6 && what != 3 && what != 4) {
-                    Due.due("drought " + by + " " + what, x.drought(0, by, what), rows[by][what]);
-                }
+                Due.due("drought " + by + " " + what, x.drought(0, by, what), rows[by][what]);
             }
         }
         Due.due("dry", x.drought(0, 0, 6), 4);
@@ -135,19 +133,18 @@ public final class WaterTest {
         Due.due("quay", Due.tell(x, 0, 0, "size 4 2;row 1 9 9 9 9;"), 0);
         Due.due("quay", x.moored(0, false), 2);
         Due.due("quay's set", x.moored(0, true), 0b0101);
-        // Around one cell of soil each: 8 by 8, as many as there may be: the first 14 alone.
+        // A chess board: as many as there may be, but of the first 14 alone.
         Due.due("checks", Due.tell(x, 0, 0, "size 8 8;row 0 9 0 9 0 9 0 9 0;row 1 0 9 0 9 0 9 0 9;row 2 9 0 9 0 9 0 9 0;row 3 0 9 0 9 0 9 0 9;"
             + "row 4 9 0 9 0 9 0 9 0;row 5 0 9 0 9 0 9 0 9;row 6 9 0 9 0 9 0 9 0;row 7 0 9 0 9 0 9 0 9;"), 0);
         Due.due("fourteen", x.moored(0, false), 14);
         Due.due("fourteen's set", x.moored(0, true), (1 << 14) - 1);
-        // Eight in a row above, then eight below the soil: the first 14 are two rows, of 8 and 6.
+        // Eight in a row above the soil, then eight below it: the first 14 are rows of 8 and 6.
         Due.due("bar", Due.tell(x, 0, 0, "size 8 3;row 1 9 9 9 9 9 9 9 9;"), 0);
         Due.due("bar", x.moored(0, false), 7);
         Due.due("bar's set", x.moored(0, true), 0b01010101010101);
         // A cell that must be left out that two others may stay: 1 is beside 0, 2.
         Due.due("bay", Due.tell(x, 0, 0, "size 3 2;row 1 9 9 9;"), 0);
         Due.due("bay", x.moored(0, true), 0b101);
-        // {0, 3} and {1, 2}: 9 and 6 as numbers.
         Due.due("four", Due.tell(x, 0, 0, "size 4 4;row 0 9 0 9 9;row 1 9 0 0 9;row 2 9 0 0 9;row 3 9 9 9 9;"), 0);
         Due.due("four", x.moored(0, false), 3);
         // 1 5 6 9 10 in places 0 to 4: 0-1, 1-2, 1-3, 2-4, 3-4; of threes only 0 2 3.
