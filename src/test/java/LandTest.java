@@ -64,8 +64,25 @@ public final class LandTest {
         Due.due("person 0", x.land(0, 20), 5);
         Due.due("person 1", x.land(0, 21), 5);
         Due.due("person 2", x.land(0, 22), 0);
+        Due.due("rows from below", Due.tell(x, 0, 0, "size 3 3;row 2 7 8 9;row 1 4 5 6;row 0 1 2 3;work 2 2 9;work 0 1 4;"), 0);
+        for (int c = 0; c < 9; c++) {
+            Due.due("rows from below " + c, x.cell(0, c, false), c + 1);
+            Due.due("works from below " + c, x.cell(0, c, true), c == 8 ? 9 : c == 3 ? 4 : 0);
+        }
         Due.due("a row without heights", Due.tell(x, 0, 0, "row 0 1 2 3;row 0;"), 0);
-        Due.due("a row without heights", x.cell(0, 1, false), 0);
+        for (int c = 0; c < 6; c++) {
+            Due.due("a row without heights, " + c, x.cell(0, c, false), 0);
+        }
+        Due.due("all of it", Due.tell(x, 0, 0, "size 2 8;level 7;hour 33;afloat 19;man 1 7;row 0 5 6;work 1 1 8;"), 0);
+        Due.due("nothing of what was before", Due.tell(x, 0, 0, ""), 0);
+        int[] plain = {6, 6, 0, 12, 3, 0};
+        for (int what = 0; what < plain.length; what++) {
+            Due.due("plain again " + what, x.land(0, what), plain[what]);
+        }
+        for (int c = 0; c < 36; c++) {
+            Due.due("plain height " + c, x.cell(0, c, false), 0);
+            Due.due("plain work " + c, x.cell(0, c, true), 0);
+        }
     }
 
     private static void greatest() {

@@ -11,7 +11,9 @@ public final class ModelTest {
             Model m = Model.random(RANDOM, i % 3 == 0 ? 8 : 5);
             FerryLand x = new FerryLand();
             String text = m.text();
-            Due.due(text, Due.tell(x, 0, NONE, text), 0);
+            // Nothing may be left of a land that was there before.
+            Due.due("before", Due.tell(x, 0, NONE, Model.random(RANDOM, 8).text()), 0);
+            Due.due(text, Due.tell(x, 0, 0, text), 0);
             land(x, m);
             days(x, m);
             errands(x, m);

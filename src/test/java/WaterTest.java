@@ -142,6 +142,9 @@ public final class WaterTest {
         Due.due("bar", Due.tell(x, 0, 0, "size 8 3;row 1 9 9 9 9 9 9 9 9;"), 0);
         Due.due("bar", x.moored(0, false), 7);
         Due.due("bar's set", x.moored(0, true), 0b01010101010101);
+        Due.due("wide", Due.tell(x, 0, 0, Lands.WIDE), 0);
+        Due.due("wide", x.moored(0, false), 2);
+        Due.due("wide's set: the first cell and the last", x.moored(0, true), 0b11);
         // A cell that must be left out that two others may stay: 1 is beside 0, 2.
         Due.due("bay", Due.tell(x, 0, 0, "size 3 2;row 1 9 9 9;"), 0);
         Due.due("bay", x.moored(0, true), 0b101);
