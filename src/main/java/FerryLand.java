@@ -214,20 +214,9 @@ public final class FerryLand {
 
     public int drought(int land, int level, int what) {
         Land one = told.landOf(land);
-        if (one == null) {
+        if (one == null || level < 0 || level > TOP_LEVEL) {
             return NONE;
         }
-        // The greatest of the levels is asked of the land alone.
-        if (what == 6) {
-            return one.dry();
-        }
-        if (level < 0 || level > TOP_LEVEL) {
-            return NONE;
-        }
-        return drained(one, level, what);
-    }
-
-    private static int drained(Land one, int level, int what) {
         long water = one.water(level);
         long soil = one.cells & ~water;
         switch (what) {
@@ -243,6 +232,8 @@ public final class FerryLand {
                 return one.shore(water);
             case 5:
                 return one.stranded(soil);
+            case 6:
+                return one.dry();
             case 7:
                 return one.volume(level);
             default:

@@ -46,8 +46,8 @@ public final class WaterTest {
         }
         Due.due("dry", x.drought(0, 0, 6), 4);
         Due.due("dry, whatever the level is", x.drought(0, 9, 6), 4);
-        Due.due("dry, whatever the level is", x.drought(0, 10, 6), 4);
-        Due.due("dry, whatever the level is", x.drought(0, -1, 6), 4);
+        Due.due("dry by no level", x.drought(0, 10, 6), NONE);
+        Due.due("dry by no level", x.drought(0, -1, 6), NONE);
         // By 4: water at 0, 2, 5, 7, 8, 10.
         Due.due("soil by 4", x.drought(0, 4, 0), 6);
         Due.due("pools by 4", x.drought(0, 4, 1), 6);
@@ -222,7 +222,7 @@ public final class WaterTest {
             Due.due("drought land " + a, x.drought(a, 0, 0), a == 0 ? 4 : NONE);
             Due.due("drought land " + a, x.drought(a, 0, 6), a == 0 ? 9 : NONE);
             Due.due("drought level " + a, x.drought(0, a, 1), a >= 0 && a < 10 ? 1 : NONE);
-            Due.due("drought level " + a, x.drought(0, a, 6), 9);
+            Due.due("drought level " + a, x.drought(0, a, 6), a >= 0 && a < 10 ? 9 : NONE);
             Due.due("drought what " + a, x.drought(0, 0, a) == NONE, a < 0 || a > 7);
             Due.due("watch land " + a, x.watch(a, 1, 0), a == 0 ? 2 : NONE);
             Due.due("watch n " + a, x.watch(0, a, 1), a > 0 && a < 4 ? 0 : NONE);
