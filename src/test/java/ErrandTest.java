@@ -177,6 +177,15 @@ public final class ErrandTest {
             Due.due("free kind " + a, x.free(0, a, 0, 0), kind ? 1 : NONE);
             Due.due("free from " + a, x.free(0, 0, a, 0), cell ? 1 : NONE);
             Due.due("free n " + a, x.free(0, 0, 0, a) == NONE, a < 0 || a > 99);
+        }
+        wrongRelays();
+    }
+
+    private static void wrongRelays() {
+        FerryLand x = Due.with(Lands.CAPE, null);
+        for (int a : Lands.ODD) {
+            boolean cell = a >= 0 && a < 12;
+            boolean kind = a >= 0 && a < 3;
             Due.due("relay land " + a, x.relay(a, 2, 0, 0), a == 0 ? 1 : NONE);
             Due.due("relay land " + a, x.relay(a, 2, 0, 3), a == 0 ? 2 : NONE);
             Due.due("relay cell " + a, x.relay(0, a, 0, 0), a == 1 || a == 2 || a == 5 ? 1 : NONE);

@@ -4,6 +4,9 @@ import java.util.Random;
 /** Random calls: none ends by an exception, all of one run stay in a small room, and the same calls answer the same. */
 public final class RoomTest {
     private static final Random RANDOM = new Random(512);
+    private static final int CALLS = 512;
+    /** How many calls the object of a run still has. */
+    private static int left = 0;
     private static final String[] TEXTS = {
         Lands.CAPE, Lands.DRY, Lands.WIDE, "size 8 8;hour 60;afloat 20;man 0 0;child 7 7;sleeper 3 3;man 1 1;child 2 2;", "go 0 1;work 0;moor 1;level 3;",
         "from 3 3;leg 1 20;leg 2 20;", "from 1 1;leg 0 1;leg 1 1;leg 2 1;leg 3 1;", "from 2 2;seen 3 1 1;not 4 2 2;", "not 12 0 0;", "size 1 1;", "?", ""};
@@ -26,7 +29,8 @@ public final class RoomTest {
     private static long run(Random random) {
         FerryLand x = new FerryLand();
         long answers = 0;
-        for (int call = 0; call < 512; call++) {
+        left = CALLS;
+        while (left > 0) {
             answers = answers * 31 + call(x, random);
         }
         return answers;
@@ -57,11 +61,16 @@ public final class RoomTest {
         int which = random.nextInt(42);
         if (which > 31) {
             int text = random.nextInt(TEXTS.length);
+            left -= 1 + Many.callsOf(TEXTS[text]);
+            if (left < 0) {
+                return 0;
+            }
             x.end(0);
             Due.type(x, TEXTS[text]);
             int sort = text < 4 ? 0 : text == 4 ? 1 : text < 7 ? 2 : text < 9 ? 3 : random.nextInt(4);
             return x.text(sort, random.nextInt(3) - 1);
         }
+        left--;
         return which < 16 ? firstHalf(x, which, a, b, c, d, e, f) : secondHalf(x, which, a, b, c, d, e, f);
     }
 

@@ -131,8 +131,8 @@ public final class RouteTest {
     }
 
     private static void wrong() {
-        FerryLand x = Due.with(Lands.CAPE, null, "leg 2 1;", "from 1 1;");
         for (int a : Lands.ODD) {
+            FerryLand x = Due.with(Lands.CAPE, null, "leg 2 1;", "from 1 1;");
             boolean route = a == 0 || a == 1;
             Due.due("at land " + a, x.at(a, 0, 0), a == 0 ? 0 : NONE);
             Due.due("at route " + a, x.at(0, a, 0), a == 0 ? 0 : a == 1 ? 5 : NONE);
