@@ -237,7 +237,7 @@ public final class EdgeDayTest {
         String land = PIER + "afloat 2;man 1 0;";
         behind(land, "go 0 2;go 0 0;go 0 2;", REST, 1);
         behind(land, "go 0 2;go 0 0;go 0 2;", ASHORE, 1);
-        behind(land, "go 0 0;".replace("0 0", "0 1") + "go 0 2;go 0 0;go 0 2;", ASHORE, 2);
+        behind(land, "go 0 1;go 0 2;go 0 0;go 0 2;", ASHORE, 2);
         behind(land, "go 0 1;go 0 2;wait 0;", ASHORE, 0);
     }
 

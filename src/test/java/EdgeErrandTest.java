@@ -356,6 +356,10 @@ public final class EdgeErrandTest {
         relay(COAST + "hour 8;work 1 0 4;work 4 0 9;", 1, 0, 3, 4);
         // Only of SOIL.
         relay(COAST + "hour 6;work 0 0 20;work 1 0 1;", 1, 0, 3, 1);
+        // Of all CELLS, the first and the last one.
+        relay("size 2 2;row 0 9 0;row 1 0 9;work 0 0 1;", 1, 0, 3, 0);
+        relay("size 2 2;row 0 9 0;row 1 0 9;work 1 1 1;", 1, 0, 3, 3);
+        relay("size 2 2;row 0 9 0;row 1 0 9;work 0 0 1;work 1 1 1;", 1, 0, 3, 0);
         // By each KIND.
         relay(COAST + "hour 6;work 1 0 1;work 2 0 9;", 1, 1, 3, 1);
         relay(COAST + "hour 6;work 1 0 1;work 2 0 9;", 1, 2, 3, 2);

@@ -411,6 +411,14 @@ public final class EdgeWaterTest {
         // Corner to corner is not beside SOIL, nor is a row's end beside the next one.
         moored("size 3 2;row 0 0 0 9;", 2, 0b11);
         moored("size 3 2;row 1 9 0 0;", 2, 0b11);
+        // The last CELL of all, and the first one.
+        StringBuilder wide = new StringBuilder("size 8 8;");
+        for (int row = 0; row < 8; row++) {
+            wide.append("row ").append(row).append(row == 0 ? " 0 9 9 9 9 9 9 9;" : row == 7 ? " 9 9 9 9 9 9 9 0;" : " 9 9 9 9 9 9 9 9;");
+        }
+        moored(wide.toString(), 2, 0b11);
+        moored(wide + "row 0 9 9 9 9 9 9 9 9;", 1, 0b1);
+        moored(wide + "row 7 9 9 9 9 9 9 0 0;", 2, 0b011);
         // By the LEVEL as told.
         moored("size 2 2;row 0 5 6;row 1 5 5;level 5;", 2, 0b11);
         moored("size 2 2;row 0 5 6;row 1 5 5;level 6;", 0, 0);
