@@ -182,6 +182,13 @@ public final class EdgeSightTest {
         }
         FerryLand x = Due.withSights(DRY + "hour 60;", "");
         Due.due("hour 60", x.walks(0, 0, 12, NONE), 531441);
+        // Thirteen minutes ashore: of each CELL its own walks.
+        for (String hour : new String[] {"hour 13;", "hour 60;"}) {
+            ends(DRY + hour, "", 12, 132861, 132860, 132860, 132860);
+            ends(DRY + hour, "from 1 1;", 12, 132860, 132860, 132860, 132861);
+            sure(DRY + hour, "from 1 1;seen 12 1 1;", 12, 12, 3);
+            sure(DRY + hour, "from 1 1;", 12, NONE, 3);
+        }
         // From water: only from minute 1 on ashore.
         walks("size 2 2;row 0 0 9;row 1 9 9;hour 1;", "", 1, 3, 1 + 2 + 2);
         walks("size 2 2;row 0 0 9;row 1 9 9;hour 1;", "not 1 0 0;", 1, 2, 2);

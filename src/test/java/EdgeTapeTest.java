@@ -33,6 +33,7 @@ public final class EdgeTapeTest {
         imageNumbers();
         againNumbers();
         imageIsAsItWas();
+        imageOfAll();
         imageOfTapeAndFault();
         imageOfNothing();
         imageInThePlaceOfOne();
@@ -478,6 +479,33 @@ public final class EdgeTapeTest {
             Due.due("no land 1", x.land(1, 0), NONE);
         }
         Due.due("a further one is 1", Due.tell(x, 0, NONE, "size 7 7;"), 1);
+    }
+
+    /** Both of each sort, and all that is of them. */
+    private static void imageOfAll() {
+        for (int k = 0; k < 3; k++) {
+            FerryLand x = Lands.full();
+            Due.due("image", x.image(k), true);
+            x.end(0);
+            String[] texts = {Lands.WIDE, "moor 0;".repeat(20), "from 5 5;" + "leg 3 20;".repeat(10), "from 5 5;" + "seen 9 1 1;".repeat(10)};
+            for (int sort = 0; sort < 4; sort++) {
+                for (int i = 0; i < 2; i++) {
+                    Due.due("another one", Due.tell(x, sort, i, texts[sort]), i);
+                }
+            }
+            marks(x);
+            Due.due("again", x.again(k), true);
+            Twin.same("image " + k, x, Lands.full(), Lands.TAPE.length());
+        }
+        // Of fewer of each sort than there are then.
+        FerryLand x = Due.with(Lands.CAPE, "wait 1;", "leg 1 2;");
+        FerryLand y = Due.with(Lands.CAPE, "wait 1;", "leg 1 2;");
+        Due.due("image", x.image(0), true);
+        for (int sort = 0; sort < 4; sort++) {
+            Due.due("a further one", Due.tell(x, sort, NONE, ""), sort < 3 ? 1 : 0);
+        }
+        Due.due("again", x.again(0), true);
+        Twin.same("image of fewer", x, y, 0);
     }
 
     private static void imageOfTapeAndFault() {

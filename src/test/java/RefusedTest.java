@@ -3,7 +3,6 @@ import java.util.function.ToLongFunction;
 /** Behind each refused call, and behind each question, all that is told is as it was. */
 public final class RefusedTest {
     private static final int NONE = Due.NONE;
-    private static final String TAPE = "level 7;hour 9;";
 
     public static void main(String[] args) {
         theTape();
@@ -21,25 +20,11 @@ public final class RefusedTest {
         Due.finish("RefusedTest");
     }
 
-    /** Two of each sort, a FAULT of 2 at place 6, an image 1 of less than that, fifteen bytes on the tape. */
-    private static FerryLand full() {
-        FerryLand x = Due.with(Lands.CAPE, "go 0 1;go 0 1;work 0;work 0;work 0;go 0 1;wait 0;wait 0;go 1 3;go 1 3;go 1 3;wait 2;moor 0;level 5;work 2;",
-            "from 1 0;leg 1 3;leg 2 1;", "leg 2 2;leg 0 1;");
-        Due.due("sight", Due.tell(x, 3, NONE, "from 1 0;not 2 2 0;"), 0);
-        Due.due("image", x.image(1), true);
-        Due.due("second land", Due.tell(x, 0, NONE, Lands.DRY), 1);
-        Due.due("second day", Due.tell(x, 1, NONE, "wait 0;level 3;wait 1;"), 1);
-        Due.due("second sight", Due.tell(x, 3, NONE, "seen 3 1 1;"), 1);
-        Due.due("a fault", Due.tell(x, 0, 1, "level 10;"), NONE);
-        Due.type(x, TAPE);
-        return x;
-    }
-
     private static void refused(String name, long want, ToLongFunction<FerryLand> call) {
-        FerryLand x = full();
+        FerryLand x = Lands.full();
         Due.due(name, call.applyAsLong(x), want);
         Due.due(name + " again", call.applyAsLong(x), want);
-        Twin.same("behind " + name, x, full(), TAPE.length());
+        Twin.same("behind " + name, x, Lands.full(), Lands.TAPE.length());
     }
 
     private static int yes(boolean answer) {
@@ -58,8 +43,8 @@ public final class RefusedTest {
     private static void texts() {
         int[][] rows = {{-1, NONE}, {4, NONE}, {0, NONE}, {1, NONE}, {2, NONE}, {3, NONE}, {0, 2}, {1, 2}, {2, -2}, {3, 3}, {4, 0}, {-1, 0}};
         for (int[] row : rows) {
-            FerryLand x = full();
-            FerryLand y = full();
+            FerryLand x = Lands.full();
+            FerryLand y = Lands.full();
             Due.due("text " + row[0] + ", " + row[1], x.text(row[0], row[1]), -2);
             Due.due("no fault", x.fault(0), 0);
             Due.due("no place", x.fault(1), NONE);
@@ -71,8 +56,8 @@ public final class RefusedTest {
         String[] bad = {"size 2 2;row 0 9 9 9;man 1 1;man 9 9;", "moor 0;moor 1;moor 5;", "from 1 1;leg 1 1;leg 5 1;", "from 1 1;seen 1 1 1;seen 1 1 8;"};
         for (int sort = 0; sort < 4; sort++) {
             for (int at = 0; at < 2; at++) {
-                FerryLand x = full();
-                FerryLand y = full();
+                FerryLand x = Lands.full();
+                FerryLand y = Lands.full();
                 x.end(0);
                 y.end(0);
                 Due.due("a bad text", Due.tell(x, sort, at, bad[sort]), NONE);
@@ -221,8 +206,8 @@ public final class RefusedTest {
         refused("again(-1)", 0, x -> yes(x.again(-1)));
         refused("image(2) and again", 1, x -> yes(x.image(2) && x.again(2)));
         for (int k : new int[] {-1, 0, 2, 3}) {
-            FerryLand x = full();
-            FerryLand y = full();
+            FerryLand x = Lands.full();
+            FerryLand y = Lands.full();
             Due.due("again " + k, x.again(k), false);
             Due.due("image 3", x.image(3), false);
             Due.due("image 1 is as it was", x.again(1), true);
@@ -264,8 +249,8 @@ public final class RefusedTest {
 
     private static void refusedFeeds() {
         for (int bytes : new int[] {581, 600}) {
-            FerryLand x = full();
-            FerryLand y = full();
+            FerryLand x = Lands.full();
+            FerryLand y = Lands.full();
             for (FerryLand one : new FerryLand[] {x, y}) {
                 one.end(0);
                 Due.type(one, " ".repeat(bytes - 8) + "level 7;");
