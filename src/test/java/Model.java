@@ -551,8 +551,8 @@ final class Model {
     // ---- sights: {column, row}, then {seen, minute, column, row} each
 
     /** All walks, one by one: how often at each minute at each cell, and the ends. */
-    int[][] walks(int[][] sight, int n) {
-        int[][] times = new int[n + 1][cells()];
+    long[][] walks(int[][] sight, int n) {
+        long[][] times = new long[n + 1][cells()];
         int start = sight[0][1] * wide + sight[0][0];
         int[] way = new int[n + 1];
         way[0] = start;
@@ -572,7 +572,7 @@ final class Model {
         return true;
     }
 
-    private void walk(int[][] sight, int n, int t, int ashoreNow, int[] way, int[][] times) {
+    private void walk(int[][] sight, int n, int t, int ashoreNow, int[] way, long[][] times) {
         if (t == n) {
             for (int i = 0; i <= n; i++) {
                 times[i][way[i]]++;
@@ -590,6 +590,60 @@ final class Model {
                 walk(sight, n, t + 1, then, way, times);
             }
         }
+    }
+
+    /** As walks(), of too many to go one by one: what comes to each state times what goes on from it. */
+    long[][] manyWalks(int[][] sight, int n) {
+        long[][] times = new long[n + 1][cells()];
+        int start = sight[0][1] * wide + sight[0][0];
+        Map<Integer, Long> now = new HashMap<>();
+        if (fits(sight, 0, start)) {
+            now.put(start * 100 + (wet(start, level) ? 0 : 1), 1L);
+        }
+        Map<Integer, Long> known = new HashMap<>();
+        for (int t = 0; t <= n; t++) {
+            Map<Integer, Long> then = new HashMap<>();
+            for (Map.Entry<Integer, Long> one : now.entrySet()) {
+                int state = one.getKey();
+                times[t][state / 100] += one.getValue() * onward(sight, n, t, state, known);
+                for (int to : nextStates(sight, t, state)) {
+                    then.merge(to, one.getValue(), Long::sum);
+                }
+            }
+            now = then;
+        }
+        return times;
+    }
+
+    private long onward(int[][] sight, int n, int t, int state, Map<Integer, Long> known) {
+        if (t == n) {
+            return 1;
+        }
+        Long before = known.get(t * 10000 + state);
+        if (before != null) {
+            return before;
+        }
+        long walks = 0;
+        for (int to : nextStates(sight, t, state)) {
+            walks += onward(sight, n, t + 1, to, known);
+        }
+        known.put(t * 10000 + state, walks);
+        return walks;
+    }
+
+    /** By cell times 100 and how long ashore. */
+    private List<Integer> nextStates(int[][] sight, int t, int state) {
+        List<Integer> states = new ArrayList<>();
+        for (int d = 0; d < 5; d++) {
+            int to = next(state / 100, d);
+            if (to >= 0 && fits(sight, t + 1, to)) {
+                int then = wet(to, level) ? 0 : state % 100 + 1;
+                if (then <= hour) {
+                    states.add(to * 100 + then);
+                }
+            }
+        }
+        return states;
     }
 
     // ---- portage, digging and damming

@@ -26,7 +26,7 @@ public final class ModelTest {
             Model m = Model.random(RANDOM, i % 3 == 0 ? 8 : 4);
             Many x = new Many();
             Due.due("land", x.tell(0, NONE, m.text()), 0);
-            sights(x, m);
+            sights(x, m, i % 2 == 0 ? below(8) : 8 + below(5));
             watchers(x, m, i);
         }
         Due.finish("ModelTest");
@@ -222,15 +222,14 @@ public final class ModelTest {
         }
     }
 
-    private static void sights(Many x, Model m) {
-        int n = below(8);
+    private static void sights(Many x, Model m, int n) {
         int facts = below(5);
         int[][] sight = new int[facts + 1][];
         sight[0] = new int[] {below(m.wide), below(m.high)};
         StringBuilder b = new StringBuilder("from " + sight[0][0] + " " + sight[0][1] + ";");
         for (int i = 1; i <= facts; i++) {
             boolean seen = below(4) == 0;
-            int t = below(n + 2);
+            int t = below(Math.min(n + 2, 13));
             // Seen near the beginning at times, so that some walks are left.
             int c = Math.min(m.wide - 1, Math.max(0, sight[0][0] + below(3) - 1));
             int r = Math.min(m.high - 1, Math.max(0, sight[0][1] + below(3) - 1));
@@ -243,15 +242,15 @@ public final class ModelTest {
                 Due.due("fact", x.ask().sight(0, i - 1, what), sight[i][what]);
             }
         }
-        int[][] times = m.walks(sight, n);
-        int all = Arrays.stream(times[n]).sum();
+        long[][] times = n < 8 ? m.walks(sight, n) : m.manyWalks(sight, n);
+        long all = Arrays.stream(times[n]).sum();
         String name = m.text() + b + n;
         Due.due(name + " walks", x.ask().walks(0, 0, n, NONE), all);
         int ask = NONE;
-        int least = Integer.MAX_VALUE;
+        long least = Long.MAX_VALUE;
         for (int c = 0; c < m.cells(); c++) {
             Due.due(name + " ends " + c, x.ask().walks(0, 0, n, c), times[n][c]);
-            int greater = Math.max(times[n][c], all - times[n][c]);
+            long greater = Math.max(times[n][c], all - times[n][c]);
             if (all > 0 && greater < least) {
                 least = greater;
                 ask = c;
